@@ -477,7 +477,6 @@ public final class WaysOut {
             blocks = 0;
             takerCount = 0;
             calls = 0;
-            clearTraces();
         }
 
         int length() {
@@ -1050,8 +1049,10 @@ public final class WaysOut {
         }
 
         private void addRow(int row, int cost, int[] to) {
-            for (int i = 0; i < CELLS && cost < FAR; i++) {
-                lower(to, i, cost + cell(row, 0, i));
+            for (int i = 0; i < CELLS && cost < FAR && row >= 0 && row + i < rows.length; i++) {
+                if (rows[row + i] < FAR) {
+                    lower(to, i, cost + rows[row + i]);
+                }
             }
         }
 

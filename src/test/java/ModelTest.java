@@ -16,7 +16,7 @@ public final class ModelTest {
     }
 
     public static void main(String[] args) {
-        int programs = args.length > 0 ? Integer.parseInt(args[0]) : 1500;
+        int programs = args.length > 0 ? Integer.parseInt(args[0]) : 6000;
         int first = args.length > 1 ? Integer.parseInt(args[1]) : 0;
         int whole = 0;
         for (int seed = first; seed < first + programs; seed++) {
@@ -155,8 +155,9 @@ public final class ModelTest {
         int choice = random.nextInt(depth < 5 ? 16 : 8);
         switch (choice) {
             case 0:
-            case 1:
                 return "!" + (char) ('A' + random.nextInt(kinds));
+            case 1:
+                return taking ? "^" : "!" + (char) ('A' + random.nextInt(kinds));
             case 2:
                 return taking ? "^" : "+1";
             case 3:

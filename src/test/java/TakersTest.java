@@ -4,6 +4,7 @@ public final class TakersTest {
         numbers();
         taken();
         neverBehindWhatDoesNotEnd();
+        reachedInside();
         swallows();
         ofItselfAlone();
         lost();
@@ -86,6 +87,22 @@ public final class TakersTest {
         taker(y, 3, 0, 0, 12, 0, 0, 1);
         taker(y, 4, 0, 0, 7, 1, 1, 0);
         taker(y, 6, 0, 2, 5, 4, 0, 0);
+    }
+
+    private static void reachedInside() {
+        WaysOut x = Check.told("T{.}Z{T{!A}A{}}", "T{!B}Z{T{!A}A{}}", "T{}Z{T{!A}A{}}", "*{T{!A}A{}.}", "?{.}{T{!A}A{}}",
+                "T{!B}B{T{!A}A{}}", "T{.}Z{}T{!A}A{}", "T{!B}B{.}Z{}T{!A}A{}");
+        WaysOut y = Check.told("?{!B}{!C}", "T{T{@a}A{T{!D}Z{^}}}B{}C{}");
+        y.under(1, 0);
+        y.under(2, 0);
+        taker(y, 1, 0, 0, 7, 6, 0, 0);
+        taker(y, 1, 1, 1, 20, 2, 1, 0);
+        taker(y, 1, 2, 2, 23, 4, 1, 0);
+        int[] last = {0, 0, 0, 0, 0, 1, 0, 1};
+        int[] want = {1, 1, 1, 1, 1, 1, 0, 0};
+        for (int r = 0; r < want.length; r++) {
+            Check.due("taker(" + r + ", " + last[r] + ", 2)", x.taker(r, last[r], 2), want[r]);
+        }
     }
 
     private static void swallows() {
