@@ -1,7 +1,9 @@
-/** What the tests share: counting wrong answers, and TEXTS told as strings. */
+/** What the tests share: counting wrong answers, naming sentences of the document, and TEXTS told as strings. */
 final class Check {
     private static int wrong = 0;
     private static int asked = 0;
+    private static String sentence = "";
+    private static int askedBefore = 0;
 
     private Check() {
     }
@@ -10,12 +12,35 @@ final class Check {
         asked++;
         if (got != want) {
             wrong++;
-            System.out.println(call + " answered " + got + ", due is " + want);
+            System.out.println(sentence + call + " answered " + got + ", due is " + want);
         }
     }
 
     static void due(String call, boolean got, boolean want) {
         due(call, got ? 1 : 0, want ? 1 : 0);
+    }
+
+    /**
+     * From here on, up to the next sentence, answers are held against these words, which stand before the
+     * promises of the document or in this one.
+     */
+    static void sentence(int promise, String words) {
+        endSentence();
+        sentence = "promise " + promise + ", '" + words + "': ";
+        due("whether these words stand in the document", Document.has(promise, words), true);
+        askedBefore = asked;
+    }
+
+    private static void endSentence() {
+        if (!sentence.isEmpty()) {
+            due("whether anything was asked", asked > askedBefore, true);
+        }
+        sentence = "";
+    }
+
+    /** Numbers that are none of 0 to the last one: just below, just above, and the ends of int. */
+    static int[] noneOf(int last) {
+        return new int[] {-1, last + 1, Integer.MIN_VALUE, Integer.MAX_VALUE};
     }
 
     /** Feeds a text, filled up with zeros to whole rows of twenty bytes; answers what the last feed answers. */
@@ -47,7 +72,22 @@ final class Check {
         return x;
     }
 
+    /** The bytes of a ROUTINE's TEXT, as look() tells them. */
+    static String textOf(WaysOut x, int r) {
+        StringBuilder out = new StringBuilder();
+        for (int i = 0; i < x.look(r, 0); i++) {
+            out.append((char) x.look(r, 100 + i));
+        }
+        return out.toString();
+    }
+
+    static void dueText(WaysOut x, int r, String want) {
+        String got = textOf(x, r);
+        due("the TEXT of " + r + " is <" + got + ">, due <" + want + ">: whether they are the same", got.equals(want), true);
+    }
+
     static void finish(String name) {
+        endSentence();
         System.out.println(name + ": " + asked + " asked, " + wrong + " wrong");
         if (wrong != 0) {
             System.exit(1);

@@ -12,143 +12,119 @@ public final class LeavingTest {
         Check.finish("LeavingTest");
     }
 
-    /** Asks, from what is open, for all pairs EXIT:THINGS=STEPS by which the ROUTINE is left, in order. */
-    private static void ways(WaysOut x, int r, int s, String want) {
-        StringBuilder got = new StringBuilder();
-        int kinds = 0;
-        int ends = 0;
-        for (int exit = 0; exit < 7; exit++) {
-            for (int t = 0; t < 4; t++) {
-                int steps = x.steps(r, s, exit, t);
-                if (steps != WaysOut.NONE) {
-                    got.append(got.length() == 0 ? "" : " ").append(exit).append(':').append(t).append('=').append(steps);
-                    kinds |= exit == 0 ? 0 : 1 << exit - 1;
-                    ends |= exit == 0 ? 1 : 0;
-                }
-            }
-        }
-        Check.due("ways of " + r + " from " + s + " are " + got + ", due " + want, got.toString().equals(want), true);
-        Check.due("leaves(" + r + ", " + s + ")", x.leaves(r, s), kinds);
-        Check.due("ends(" + r + ", " + s + ")", x.ends(r, s), ends);
-    }
-
-    private static void ways(String text, int s, String want) {
-        ways(Check.told(text), 0, s, want);
-    }
-
     private static void statements() {
-        ways("", 2, "0:2=0");
-        ways("!A", 0, "1:0=1");
-        ways("!F", 3, "6:3=1");
-        ways(".", 1, "0:1=1");
-        ways(".!A", 1, "0:1=1");
-        ways("!B!A", 1, "2:1=1");
-        ways("+0", 0, "0:1=1");
-        ways("+1", 0, "0:2=1");
-        ways("+0+0", 1, "0:1=2");
-        ways("-0", 3, "0:2=1");
-        ways("-1", 3, "0:1=1");
-        ways("-1-1", 1, "0:1=2");
-        ways("+0-1!C", 2, "3:1=3");
+        Ways.due("", 2, "0:2=0");
+        Ways.due("!A", 0, "1:0=1");
+        Ways.due("!F", 3, "6:3=1");
+        Ways.due(".", 1, "0:1=1");
+        Ways.due(".!A", 1, "0:1=1");
+        Ways.due("!B!A", 1, "2:1=1");
+        Ways.due("+0", 0, "0:1=1");
+        Ways.due("+1", 0, "0:2=1");
+        Ways.due("+0+0", 1, "0:1=2");
+        Ways.due("-0", 3, "0:2=1");
+        Ways.due("-1", 3, "0:1=1");
+        Ways.due("-1-1", 1, "0:1=2");
+        Ways.due("+0-1!C", 2, "3:1=3");
     }
 
     private static void blocks() {
-        ways("?{!A}{}", 0, "0:0=0 1:0=1");
-        ways("?{+0.}{+1+1}!D", 0, "0:1=2 4:2=3");
-        ways("?{?{!A}{!B}}{?{!C}{!D}}", 1, "1:1=1 2:1=1 3:1=1 4:1=1");
-        ways("*{}", 2, "0:2=0");
-        ways("*{+0}", 0, "0:0=0 0:1=1");
-        ways("*{?{+0}{+1}}", 0, "0:0=0 0:1=1 0:2=1 0:3=2");
-        ways("*{?{+0-1}{?{+1}{-0}}}", 0, "0:0=0 0:1=2 0:2=1 0:3=3");
-        ways("*{?{-0}{?{-1}{!A}}}", 3, "0:0=2 0:1=1 0:2=1 0:3=0 1:0=3 1:1=2 1:2=2 1:3=1");
-        ways("*{+0?{.}{!A}}", 0, "0:0=0 0:1=2 1:1=2");
-        ways("*{+0?{}{?{.}{-0+1}}}-0", 0, "0:0=1 0:1=2 0:2=4 0:3=5");
-        ways("*{*{*{+0+1}-0}!A}", 0, "0:0=0 1:0=1 1:2=4");
+        Ways.due("?{!A}{}", 0, "0:0=0 1:0=1");
+        Ways.due("?{+0.}{+1+1}!D", 0, "0:1=2 4:2=3");
+        Ways.due("?{?{!A}{!B}}{?{!C}{!D}}", 1, "1:1=1 2:1=1 3:1=1 4:1=1");
+        Ways.due("*{}", 2, "0:2=0");
+        Ways.due("*{+0}", 0, "0:0=0 0:1=1");
+        Ways.due("*{?{+0}{+1}}", 0, "0:0=0 0:1=1 0:2=1 0:3=2");
+        Ways.due("*{?{+0-1}{?{+1}{-0}}}", 0, "0:0=0 0:1=2 0:2=1 0:3=3");
+        Ways.due("*{?{-0}{?{-1}{!A}}}", 3, "0:0=2 0:1=1 0:2=1 0:3=0 1:0=3 1:1=2 1:2=2 1:3=1");
+        Ways.due("*{+0?{.}{!A}}", 0, "0:0=0 0:1=2 1:1=2");
+        Ways.due("*{+0?{}{?{.}{-0+1}}}-0", 0, "0:0=1 0:1=2 0:2=4 0:3=5");
+        Ways.due("*{*{*{+0+1}-0}!A}", 0, "0:0=0 1:0=1 1:2=4");
     }
 
     private static void takersAndEndings() {
-        ways("T{!A}A{}", 0, "0:0=1");
-        ways("T{!A}B{}", 0, "1:0=1");
-        ways("T{+0!A}B{+1}A{+1}A{}", 0, "0:3=3");
-        ways("T{!A}A{!B}B{}", 0, "2:0=2");
-        ways("T{!A}A{.}!C", 0, "0:0=2");
-        ways("T{}A{}!C", 0, "3:0=1");
-        ways("T{.}A{!B}!C", 0, "0:0=1");
-        ways("T{+0}Z{+1}!C", 0, "3:3=3");
-        ways("T{.}Z{+1}!C", 0, "0:2=2");
-        ways("T{!A}Z{+1}!C", 0, "1:2=2");
-        ways("T{!A}A{!B}Z{+1}", 0, "2:2=3");
-        ways("T{!A}A{.}Z{+1}!C", 0, "0:2=3");
-        ways("T{!A}A{}Z{+1}!C", 0, "3:2=3");
-        ways("T{!A}Z{.}!C", 0, "0:0=2");
-        ways("T{.}Z{!A}!C", 0, "1:0=2");
-        ways("T{}Z{!A}!C", 0, "1:0=1");
-        ways("T{!B}B{}Z{!B}", 0, "2:0=2");
-        ways("T{!A}Z{?{!B}{+0}}", 0, "1:1=2 2:0=2");
-        ways("T{!A}Z{T{!B}Z{.}}", 0, "0:0=3");
-        ways("T{T{!A}Z{!B}}B{+0}", 0, "0:1=3");
-        ways("T{!A}Z{T{!B}B{}}", 0, "1:0=2");
-        ways("T{?{!A}{?{.}{}}}Z{+0}+1", 0, "0:1=2 0:3=2 1:1=2");
+        Ways.due("T{!A}A{}", 0, "0:0=1");
+        Ways.due("T{!A}B{}", 0, "1:0=1");
+        Ways.due("T{+0!A}B{+1}A{+1}A{}", 0, "0:3=3");
+        Ways.due("T{!A}A{!B}B{}", 0, "2:0=2");
+        Ways.due("T{!A}A{.}!C", 0, "0:0=2");
+        Ways.due("T{}A{}!C", 0, "3:0=1");
+        Ways.due("T{.}A{!B}!C", 0, "0:0=1");
+        Ways.due("T{+0}Z{+1}!C", 0, "3:3=3");
+        Ways.due("T{.}Z{+1}!C", 0, "0:2=2");
+        Ways.due("T{!A}Z{+1}!C", 0, "1:2=2");
+        Ways.due("T{!A}A{!B}Z{+1}", 0, "2:2=3");
+        Ways.due("T{!A}A{.}Z{+1}!C", 0, "0:2=3");
+        Ways.due("T{!A}A{}Z{+1}!C", 0, "3:2=3");
+        Ways.due("T{!A}Z{.}!C", 0, "0:0=2");
+        Ways.due("T{.}Z{!A}!C", 0, "1:0=2");
+        Ways.due("T{}Z{!A}!C", 0, "1:0=1");
+        Ways.due("T{!B}B{}Z{!B}", 0, "2:0=2");
+        Ways.due("T{!A}Z{?{!B}{+0}}", 0, "1:1=2 2:0=2");
+        Ways.due("T{!A}Z{T{!B}Z{.}}", 0, "0:0=3");
+        Ways.due("T{T{!A}Z{!B}}B{+0}", 0, "0:1=3");
+        Ways.due("T{!A}Z{T{!B}B{}}", 0, "1:0=2");
+        Ways.due("T{?{!A}{?{.}{}}}Z{+0}+1", 0, "0:1=2 0:3=2 1:1=2");
     }
 
     private static void raisedAgain() {
-        ways("T{!A}A{^}", 0, "1:0=2");
-        ways("T{!A}A{+0^+1}Z{-0}", 0, "1:0=4");
-        ways("T{!A}A{T{^}A{+1}}", 0, "0:2=3");
-        ways("T{!A}A{T{!B}B{^}}", 0, "2:0=3");
-        ways("T{!A}A{T{!B}B{}^}", 0, "1:0=3");
-        ways("T{!A}A{T{}Z{^}}", 0, "1:0=2");
-        ways("T{!A}A{T{!B}Z{^}}", 0, "1:0=3");
-        ways("T{!B}B{T{!C}Z{^}}", 0, "2:0=3");
-        ways("T{!B}B{?{*{^}}{T{^}Z{}}}", 0, "0:0=1 2:0=2");
-        ways("T{T{!C}C{T{!E}E{^}}}C{!A}E{+0^}", 0, "5:1=5");
-        ways("T{!A}A{*{+0?{^}{}}}", 0, "0:0=1 0:1=2 1:1=3");
+        Ways.due("T{!A}A{^}", 0, "1:0=2");
+        Ways.due("T{!A}A{+0^+1}Z{-0}", 0, "1:0=4");
+        Ways.due("T{!A}A{T{^}A{+1}}", 0, "0:2=3");
+        Ways.due("T{!A}A{T{!B}B{^}}", 0, "2:0=3");
+        Ways.due("T{!A}A{T{!B}B{}^}", 0, "1:0=3");
+        Ways.due("T{!A}A{T{}Z{^}}", 0, "1:0=2");
+        Ways.due("T{!A}A{T{!B}Z{^}}", 0, "1:0=3");
+        Ways.due("T{!B}B{T{!C}Z{^}}", 0, "2:0=3");
+        Ways.due("T{!B}B{?{*{^}}{T{^}Z{}}}", 0, "0:0=1 2:0=2");
+        Ways.due("T{T{!C}C{T{!E}E{^}}}C{!A}E{+0^}", 0, "5:1=5");
+        Ways.due("T{!A}A{*{+0?{^}{}}}", 0, "0:0=1 0:1=2 1:1=3");
         WaysOut x = Check.told("?{!A}{?{!B}{!C}}", "T{@a}A{T{^}B{+0}C{+1}}");
         x.under(1, 0);
         x.under(2, 0);
-        ways(x, 1, 0, "0:1=4 0:2=4 1:0=3");
+        Ways.due(x, 1, 0, "0:1=4 0:2=4 1:0=3");
         x.under(2, 1);
-        ways(x, 1, 0, "0:1=4 1:0=3");
+        Ways.due(x, 1, 0, "0:1=4 1:0=3");
         WaysOut y = Check.told("?{!A}{?{!B}{!C}}", "T{@a}A{T{@a}A{^}^}");
         y.under(1, 0);
         y.under(2, 1);
-        ways(y, 1, 0, "1:0=5 2:0=5 3:0=5");
+        Ways.due(y, 1, 0, "1:0=5 2:0=5 3:0=5");
     }
 
     private static void calls() {
         WaysOut x = Check.told("+0@b-0", "?{.}{!C}", "@c", "?{}{@d+1}", "?{+0}{@d@f}", "@e!A", "@h.", "T{@g}Z{@g}");
-        ways(x, 0, 0, "0:0=4 3:1=3");
-        ways(x, 1, 3, "0:3=1 3:3=1");
-        ways(x, 2, 0, "");
-        ways(x, 3, 0, "0:0=0 0:2=2");
-        ways(x, 4, 0, "0:1=1 1:1=5 1:3=7");
-        ways(x, 5, 0, "1:1=3 1:3=8");
-        ways(x, 6, 0, "");
+        Ways.due(x, 0, 0, "0:0=4 3:1=3");
+        Ways.due(x, 1, 3, "0:3=1 3:3=1");
+        Ways.due(x, 2, 0, "");
+        Ways.due(x, 3, 0, "0:0=0 0:2=2");
+        Ways.due(x, 4, 0, "0:1=1 1:1=5 1:3=7");
+        Ways.due(x, 5, 0, "1:1=3 1:3=8");
+        Ways.due(x, 6, 0, "");
         Check.tell(x, 7, "?{@g}{!B}");
-        ways(x, 6, 1, "2:1=2");
-        ways(x, 7, 1, "2:1=1");
+        Ways.due(x, 6, 1, "2:1=2");
+        Ways.due(x, 7, 1, "2:1=1");
         Check.tell(x, 1, "@b");
-        ways(x, 0, 0, "");
+        Ways.due(x, 0, 0, "");
         WaysOut y = Check.told("?{!A}{T{@a}A{+0}}");
-        ways(y, 0, 0, "0:1=3 1:0=1");
+        Ways.due(y, 0, 0, "0:1=3 1:0=1");
     }
 
     private static void most() {
         String ten = "@a@a@a@a@a@a@a@a@a@a";
         WaysOut x = Check.told("+0+0+0+0+0+0+0+0+0+0", ten, ten.replace('a', 'b'), "@c@c@c@c", "?{@d}{+1}");
-        ways(x, 0, 0, "0:1=10");
-        ways(x, 1, 0, "0:1=110");
-        ways(x, 2, 0, "0:1=999");
-        ways(x, 3, 0, "0:1=999");
-        ways(x, 4, 0, "0:1=999 0:2=1");
+        Ways.due(x, 0, 0, "0:1=10");
+        Ways.due(x, 1, 0, "0:1=110");
+        Ways.due(x, 2, 0, "0:1=999");
+        Ways.due(x, 3, 0, "0:1=999");
+        Ways.due(x, 4, 0, "0:1=999 0:2=1");
         Check.tell(x, 5, "@b@b@b@b@b@b@b@b" + "@a@a@a@a@a@a@a@a@a" + "+0+0+0+0+0+0+0+0+0+0+0");
-        ways(x, 5, 0, "0:1=998");
+        Ways.due(x, 5, 0, "0:1=998");
         Check.tell(x, 5, "@b@b@b@b@b@b@b@b@b");
-        ways(x, 5, 0, "0:1=999");
+        Ways.due(x, 5, 0, "0:1=999");
         Check.tell(x, 5, "@b@b@b@b@b@b@b@b@b!A");
-        ways(x, 5, 0, "1:1=999");
+        Ways.due(x, 5, 0, "1:1=999");
         Check.tell(x, 6, "*{@f}T{@f}A{.}");
-        ways(x, 6, 0, "0:1=999 1:1=999");
+        Ways.due(x, 6, 0, "0:1=999 1:1=999");
     }
 
     private static void dues() {
