@@ -17,10 +17,12 @@ public final class EdgesLeavingTest {
         opensAgain();
         shutsAgain();
         noStatements();
+        oneOrTheOther();
         noneOneOrSeveral();
         innermostTaker();
         firstTaker();
         withoutTaker();
+        mostBlocks();
         otherTakers();
         endingRuns();
         endingEnds();
@@ -39,15 +41,25 @@ public final class EdgesLeavingTest {
         Check.finish("EdgesLeavingTest");
     }
 
+    /** Each ROUTINE can be left by every EXIT with whatever open: what is answered NONE is so for the question alone. */
+    private static WaysOut allWays() {
+        String all = "*{?{?{+0}{-0}}{?{+1}{-1}}}?{}{@h}";
+        return Check.told(all, all, all, all, all, all, all, "*{?{?{!A}{!B}}{?{!C}{?{!D}{?{!E}{!F}}}}}");
+    }
+
     private static void begunOpen() {
         Check.sentence(6, "begun with THINGS s open (0 to 3)");
         WaysOut x = Check.told("!A");
         for (int s = 0; s < 4; s++) {
             Ways.due(x, 0, s, "1:" + s + "=1");
         }
+        WaysOut all = allWays();
         for (int s : Check.noneOf(3)) {
-            Check.due("steps(0, " + s + ", 1, 0)", x.steps(0, s, 1, 0), NONE);
-            Check.due("steps(0, " + s + ", 1, " + s + ")", x.steps(0, s, 1, s), NONE);
+            for (int t = 0; t < 4; t++) {
+                for (int exit = 0; exit < 7; exit++) {
+                    Check.due("steps(1, " + s + ", " + exit + ", " + t + ")", all.steps(1, s, exit, t), NONE);
+                }
+            }
         }
     }
 
@@ -58,8 +70,13 @@ public final class EdgesLeavingTest {
         for (int t = 0; t < 4; t++) {
             Check.due("steps(0, 0, 0, " + t + ")", x.steps(0, 0, 0, t), want[t]);
         }
+        WaysOut all = allWays();
         for (int t : Check.noneOf(3)) {
-            Check.due("steps(0, 0, 0, " + t + ")", x.steps(0, 0, 0, t), NONE);
+            for (int s = 0; s < 4; s++) {
+                for (int exit = 0; exit < 7; exit++) {
+                    Check.due("steps(1, " + s + ", " + exit + ", " + t + ")", all.steps(1, s, exit, t), NONE);
+                }
+            }
         }
     }
 
@@ -80,8 +97,13 @@ public final class EdgesLeavingTest {
             for (int exit = 0; exit < 7; exit++) {
                 Check.due("steps(" + r + ", 0, " + exit + ", 0)", x.steps(r, 0, exit, 0), r != exit ? NONE : r == 0 ? 0 : 1);
             }
-            for (int exit : Check.noneOf(6)) {
-                Check.due("steps(" + r + ", 0, " + exit + ", 0)", x.steps(r, 0, exit, 0), NONE);
+        }
+        WaysOut all = allWays();
+        for (int exit : Check.noneOf(6)) {
+            for (int s = 0; s < 4; s++) {
+                for (int t = 0; t < 4; t++) {
+                    Check.due("steps(1, " + s + ", " + exit + ", " + t + ")", all.steps(1, s, exit, t), NONE);
+                }
             }
         }
     }
@@ -97,7 +119,7 @@ public final class EdgesLeavingTest {
 
     private static void stepsNoSuchOnes() {
         Check.sentence(6, "NONE: it can't be, no such ones");
-        WaysOut x = new WaysOut();
+        WaysOut x = allWays();
         for (int r : Check.noneOf(7)) {
             Check.due("steps(" + r + ", 0, 0, 0)", x.steps(r, 0, 0, 0), NONE);
         }
@@ -202,12 +224,22 @@ public final class EdgesLeavingTest {
         }
     }
 
+    private static void oneOrTheOther() {
+        Check.sentence(6, "? BLOCK BLOCK: the one or the other");
+        Ways.due("?{}{.}!A", 0, "0:0=1 1:0=1");
+        Ways.due("?{.}{}!A", 0, "0:0=1 1:0=1");
+        Ways.due("?{+0}{+1}", 0, "0:1=1 0:2=1");
+        Ways.due("?{!A}{@a}", 0, "1:0=1");
+        Ways.due("?{@a}{!A}", 0, "1:0=1");
+    }
+
     private static void noneOneOrSeveral() {
         Check.sentence(6, "* BLOCK: none, one or several times");
         Ways.due("*{!A}", 0, "0:0=0 1:0=1");
         Ways.due("*{.}!A", 0, "0:0=1 1:0=1");
         Ways.due("*{@a}!A", 0, "1:0=1");
         Ways.due("*{?{+0}{-1}}", 2, "0:0=1 0:1=2 0:2=0 0:3=1");
+        Ways.due("*{?{-0-1}{+1}}", 1, "0:0=2 0:1=0 0:2=3 0:3=1");
         WaysOut x = Check.told("*{@b}", "?{-0+1}{?{+0!A}{-1+0}}");
         Ways.due(x, 0, 0, "0:0=0 0:1=3 0:2=3 1:1=3 1:3=6");
         Ways.due(x, 0, 3, "0:1=3 0:2=3 0:3=0 1:1=6 1:3=3");
@@ -219,7 +251,7 @@ public final class EdgesLeavingTest {
         Ways.due("T{!A}A{T{!B}B{}^}", 0, "1:0=3");
         Ways.due("T{!A}A{T{^}B{}}", 0, "1:0=2");
         Ways.due("T{!A}A{T{!B}B{}Z{^}}", 0, "1:0=3");
-        Ways.due("T{!A}A{*{?{}{^}}}", 0, "0:0=1 1:0=2");
+        Ways.due("T{!B}B{*{?{}{^}}}", 0, "0:0=1 2:0=2");
         WaysOut x = Check.told("T{!B}A{^}");
         x.under(1, 0);
         Ways.due(x, 0, 0, "2:0=2");
@@ -238,6 +270,15 @@ public final class EdgesLeavingTest {
         y.under(1, 0);
         Ways.due(y, 0, 0, "1:0=1");
         Ways.due("T{!F}A{}B{}C{}D{}E{}F{+0}", 0, "0:1=2");
+    }
+
+    /** Twenty-four BLOCKS are the most that 60 bytes hold, as each ? has two in five bytes. */
+    private static void mostBlocks() {
+        Check.sentence(6, "each with a TEXT of 60 bytes at most");
+        Ways.due("?{}{}".repeat(12), 2, "0:2=0");
+        Ways.due("?{}{}".repeat(10) + "?{.}{!A}", 0, "0:0=1 1:0=1");
+        Ways.due("?{+0}{}" + "?{}{}".repeat(10), 0, "0:0=0 0:1=1");
+        Ways.due("?{}{".repeat(8) + "!F" + "}".repeat(8), 0, "0:0=0 6:0=1");
     }
 
     private static void withoutTaker() {
@@ -338,14 +379,14 @@ public final class EdgesLeavingTest {
 
     private static void leavesNoSuchOnes() {
         Check.sentence(7, "NONE: no such ones");
-        WaysOut x = Check.told("!A", "", "", "", "", "", "", "!B");
+        WaysOut x = allWays();
         for (int r : Check.noneOf(7)) {
             Check.due("leaves(" + r + ", 0)", x.leaves(r, 0), NONE);
         }
         for (int s : Check.noneOf(3)) {
             Check.due("leaves(0, " + s + ")", x.leaves(0, s), NONE);
         }
-        Check.due("leaves(7, 3)", x.leaves(7, 3), 2);
+        Check.due("leaves(7, 3)", x.leaves(7, 3), 63);
     }
 
     private static void endsOrNot() {

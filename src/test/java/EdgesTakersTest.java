@@ -9,7 +9,10 @@ public final class EdgesTakersTest {
         kindAndPlace();
         takenByTheFirst();
         takenAsBits();
+        takenAgain();
+        takenBehindWhatDoesNotGoOn();
         takenBehindWhatGoesOn();
+        takenInAllBlocks();
         notInCallers();
         endIsNotAsked();
         never();
@@ -21,6 +24,7 @@ public final class EdgesTakersTest {
         notLost();
         lostByItsText();
         lostEndIsNotAsked();
+        lostOrTaken();
         lostNoSuchOne();
         Check.finish("EdgesTakersTest");
     }
@@ -104,14 +108,53 @@ public final class EdgesTakersTest {
         taker(x, 3, 0, 0, 3, 0);
     }
 
-    private static void takenBehindWhatGoesOn() {
-        Check.sentence(11, "KINDS that come to it in RUNS of that ROUTINE begun with nothing open");
-        WaysOut x = Check.told(".T{!A}A{}", "!BT{!A}A{}", "T{.}Z{}T{!A}A{}", "*{.}T{!A}A{}", "?{.}{!B}T{!A}A{}",
-                "T{!B}Z{T{!A}A{}}", "*{T{!A}A{}.}", "T{!B}B{^}Z{}T{!A}A{}");
-        int[] want = {0, 0, 0, 1, 0, 1, 1, 0};
-        for (int r = 0; r < 8; r++) {
+    private static void takenAgain() {
+        Check.sentence(11, "raises again what the TAKER in which it stands took");
+        WaysOut x = Check.told("?{!A}{?{!B}{!C}}", "T{@a}A{T{^}B{}A{}}C{T{*{^}}A{}C{}}");
+        taker(x, 1, 0, 0, 5, 1, 0, 0);
+        taker(x, 1, 1, 1, 11, 0, 0, 1);
+        taker(x, 1, 2, 0, 14, 1, 1, 0);
+        taker(x, 1, 3, 2, 18, 4, 0, 0);
+        taker(x, 1, 4, 0, 27, 0, 0, 1);
+        taker(x, 1, 5, 2, 30, 4, 1, 0);
+        x.under(1, 0);
+        taker(x, 1, 0, 0, 5, 3, 0, 0);
+        taker(x, 1, 1, 1, 11, 2, 1, 0);
+        taker(x, 1, 2, 0, 14, 1, 1, 0);
+    }
+
+    /** What is TAKEN by the last TAKER of each ROUTINE. */
+    private static void lastTaken(WaysOut x, int... want) {
+        for (int r = 0; r < want.length; r++) {
             Check.due("last taker of " + r, x.taker(r, x.takers(r) - 1, 2), want[r]);
         }
+    }
+
+    private static void takenBehindWhatGoesOn() {
+        Check.sentence(11, "TAKEN by one: KINDS that come to it");
+        lastTaken(Check.told("+0-1T{!A}A{}", "@hT{!A}A{}", "?{}{.}T{!A}A{}", "?{!B}{}T{!A}A{}", "T{}B{}T{!A}A{}",
+                "T{}Z{}T{!A}A{}", "T{!B}B{}Z{+0}T{!A}A{}", "?{@h.}{}"), 1, 1, 1, 1, 1, 1, 1);
+        lastTaken(Check.told("T{}Z{T{!A}A{}}", "T{.}Z{T{!A}A{}}", "T{!B}B{}T{!A}A{}", "T{!B}Z{T{!A}A{}}", "*{}T{!A}A{}",
+                "?{}{}T{!A}A{}", "T{!B}Z{?{}{.}T{!A}A{}}", "T{}Z{?{}{!B}}T{!A}A{}"), 1, 1, 1, 1, 1, 1, 1, 1);
+    }
+
+    private static void takenInAllBlocks() {
+        Check.sentence(11, "RUNS are all ways to go through, whatever is chosen");
+        WaysOut x = Check.told("?{T{!A}A{}}{T{!B}B{}}", "*{T{!C}C{}}", "T{T{!D}D{}!E}E{T{!F}F{}}Z{T{!A}A{}}");
+        int[][] want = {{1, 2}, {4}, {8, 16, 32, 1}};
+        for (int r = 0; r < want.length; r++) {
+            for (int h = 0; h < want[r].length; h++) {
+                Check.due("taker(" + r + ", " + h + ", 2)", x.taker(r, h, 2), want[r][h]);
+            }
+        }
+    }
+
+    private static void takenBehindWhatDoesNotGoOn() {
+        Check.sentence(11, "KINDS that come to it in RUNS of that ROUTINE begun with nothing open");
+        lastTaken(Check.told(".T{!A}A{}", "!BT{!A}A{}", "T{.}Z{}T{!A}A{}", "?{.}{!B}T{!A}A{}", "T{!B}B{^}Z{}T{!A}A{}",
+                "T{}Z{.}T{!A}A{}", "@hT{!A}A{}", "?{!A}{!B}"), 0, 0, 0, 0, 0, 0, 0);
+        lastTaken(Check.told("T{!B}Z{}T{!A}A{}", "T{!B}B{.}T{!A}A{}", "T{!B}A{}", "T{!B}B{.!A}A{}", "T{!B}Z{!C}T{!A}A{}",
+                "*{.T{!A}A{}}", "@gT{!A}A{}"), 0, 0, 0, 0, 0, 0, 0);
     }
 
     private static void notInCallers() {
@@ -240,6 +283,18 @@ public final class EdgesTakersTest {
         for (int r = 0; r < want.length; r++) {
             Check.due("lost(" + r + ")", x.lost(r), want[r]);
         }
+    }
+
+    private static void lostOrTaken() {
+        Check.sentence(12, "goes to the first TAKER of whose KIND it IS");
+        WaysOut x = Check.told("T{?{!B}{!C}}A{}Z{.}");
+        Check.due("lost(0)", x.lost(0), 6);
+        Check.due("under(1, 0)", x.under(1, 0), true);
+        Check.due("lost(0)", x.lost(0), 4);
+        Check.due("under(2, 1)", x.under(2, 1), true);
+        Check.due("lost(0)", x.lost(0), 0);
+        Check.due("under(1, NONE)", x.under(1, NONE), true);
+        Check.due("lost(0)", x.lost(0), 6);
     }
 
     private static void lostNoSuchOne() {

@@ -20,6 +20,7 @@ public final class EdgesTapeTest {
         emptyAfterFault();
         numberAndPlace();
         textStays();
+        nothingStays();
         noSuchRoutine();
         aboveSixty();
         notSoMany();
@@ -202,6 +203,25 @@ public final class EdgesTapeTest {
             Check.due("takers(0)", x.takers(0), 1);
             Check.due("taker(0, 0, 2)", x.taker(0, 0, 2), 1);
             Check.due("steps(0, 0, 0, 0)", x.steps(0, 0, 0, 0), 1);
+        }
+    }
+
+    /** Each TEXT comes behind one that was longer, or had a FAULT, and has nothing of it. */
+    private static void nothingStays() {
+        Check.sentence(3, "are the TEXT of ROUTINE r: 0; a FAULT");
+        WaysOut x = new WaysOut();
+        for (int n = 0; n < 3; n++) {
+            Check.due("a long TEXT", Check.tell(x, 0, "@c@dT{!B}B{?{^}{}}C{}Z{?{}{.}}"), 0);
+            Check.due("lost(0)", x.lost(0), 2);
+            Check.due("a FAULT", Check.tell(x, 0, "@e@fT{!B}B{^}D{}*{^"), 118);
+        }
+        for (int n = 0; n < 3; n++) {
+            Check.due("a short TEXT", Check.tell(x, 0, "*{?{+0}{}}T{!C}Z{}"), 0);
+            Check.due("look(0, 0)", x.look(0, 0), 18);
+            Check.due("look(0, 1)", x.look(0, 1), 0);
+            Check.due("takers(0)", x.takers(0), 0);
+            Check.due("lost(0)", x.lost(0), 0);
+            Ways.due(x, 0, 0, "3:0=1 3:1=2");
         }
     }
 
