@@ -1,6 +1,11 @@
 import java.io.IOException;
+import java.lang.reflect.Field;
+import java.lang.reflect.Method;
+import java.lang.reflect.Modifier;
 import java.nio.file.Files;
 import java.nio.file.Path;
+import java.util.HashSet;
+import java.util.Set;
 import java.util.regex.Matcher;
 import java.util.regex.Pattern;
 
@@ -26,6 +31,16 @@ public final class LanguageTest {
         int classes = code.split("\\bclass ").length - 1;
         Check.due("classes: " + classes, classes <= 12, true);
         methods(code);
+        Set<String> face = new HashSet<>();
+        for (Method method : WaysOut.class.getMethods()) {
+            face.add(method.getName());
+        }
+        members(WaysOut.class, face);
+        for (Class<?> inside : WaysOut.class.getDeclaredClasses()) {
+            int how = inside.getModifiers();
+            Check.due("static, not seen from outside: " + inside, Modifier.isStatic(how) && !Modifier.isPublic(how), true);
+            members(inside, face);
+        }
         Check.finish("LanguageTest");
     }
 
@@ -41,5 +56,25 @@ public final class LanguageTest {
             Check.due("parameters of " + method.group().trim(), parameters <= 7, true);
         }
         Check.due("methods were found: " + count, count > 80, true);
+    }
+
+    /** Rules 1, 5 and 11: names of private methods, static fields, how many fields a class has. */
+    private static void members(Class<?> of, Set<String> face) {
+        for (Method method : of.getDeclaredMethods()) {
+            if (Modifier.isPrivate(method.getModifiers())) {
+                Check.due("a public name on private " + method, face.contains(method.getName()), false);
+            }
+        }
+        int fields = 0;
+        for (Field field : of.getDeclaredFields()) {
+            if (Modifier.isStatic(field.getModifiers())) {
+                boolean constant = Modifier.isFinal(field.getModifiers()) && field.getType() == int.class;
+                Check.due("a constant: " + field, constant, true);
+            } else {
+                Check.due("private: " + field, Modifier.isPrivate(field.getModifiers()), true);
+                fields++;
+            }
+        }
+        Check.due("fields of " + of + ": " + fields, fields <= 20, true);
     }
 }
